@@ -18,7 +18,7 @@ public final class TurnGroups {
     private static final int MOST_HALVINGS = 16;
     private static final int TURN_BITS = 32;
     private static final int ONE = 0x76543210;
-    /** Stands where there is no turn: as a turn it would carry all points to 0. */
+    /** The answer of a search that finds none: as a turn it would carry all points to 0. */
     private static final int NO_TURN = 0;
 
     private final int[] shelf = new int[SHELF_PLACES];
@@ -386,7 +386,8 @@ public final class TurnGroups {
     private static int reverse(int turn) {
         int result = 0;
         for (int point = 0; point < MOST_POINTS; point++) {
-            result |= point << 4 * image(turn, point);
+            int target = turn >> 4 * point & 7;
+            result |= point << 4 * target;
         }
         return result;
     }
@@ -512,23 +513,25 @@ public final class TurnGroups {
     }
 
     /**
-     * A GROUP as a tower of levels. Level i has a cell for each point p; in it stands one turn of
-     * the group that leaves 0 .. i - 1 and carries i to p, if there is any. Then each turn of the
-     * group is, in just one way, one of level 7 THEN one of level 6 and so on to one of level 0.
+     * A GROUP as a tower of levels. Level i has a cell for each point p above i; in it stands one
+     * turn of the group that leaves 0 .. i - 1 and carries i to p, if there is any. Each turn of the
+     * group is, in just one way, one of level 7 THEN one of level 6 and so on to one of level 0,
+     * with ONE where the level's own point stays.
      */
     private static final class Tower {
         private static final int LEVELS = MOST_POINTS;
         private static final int CELLS = LEVELS * MOST_POINTS;
-        /** Level i can fill cells i + 1 .. 7 besides that of ONE. */
+        /** Level i can fill the cells of i + 1 .. 7. */
         private static final int MOST_FILLED = 28;
         /** Each maker at least doubles the group. */
         private static final int MOST_MAKERS = MOST_HALVINGS;
 
+        /** A cell is looked at only where reach has its point; a level's own point needs none. */
         private final int[] cells = new int[CELLS];
         private final int[] cellsBack = new int[CELLS];
-        /** For each level the set of points whose cells are filled. */
+        /** For each level the points to which its turns carry its own: that one is always there. */
         private final int[] reach = new int[LEVELS];
-        /** The cells that have another turn than ONE, in the order in which they got it. */
+        /** The cells that have a turn, in the order in which they got it. */
         private final int[] filled = new int[MOST_FILLED];
         private int filledCount;
         /** A few turns of which the group is the GROUP OF. */
@@ -537,11 +540,7 @@ public final class TurnGroups {
 
         /** Becomes the group that has ONE alone. */
         void clear() {
-            Arrays.fill(cells, NO_TURN);
-            Arrays.fill(cellsBack, NO_TURN);
             for (int level = 0; level < LEVELS; level++) {
-                cells[cellOf(level, level)] = ONE;
-                cellsBack[cellOf(level, level)] = ONE;
                 reach[level] = 1 << level;
             }
             filledCount = 0;
