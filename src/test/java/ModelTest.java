@@ -5,7 +5,8 @@ import java.util.Random;
 
 /**
  * Long runs of calls against a model that keeps each group as the set of all its turns and answers
- * by the document's words, turn by turn. Arguments: the first run's number, how many runs.
+ * by the document's words, turn by turn, but for MOST_PAIRS. Arguments: the first run's number, how
+ * many runs.
  */
 public final class ModelTest {
     private static final int CALLS = 512;
