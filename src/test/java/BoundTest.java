@@ -402,17 +402,7 @@ public final class BoundTest {
         Due.by("JOIN of a, b: the GROUP OF all of both");
         for (int n = 2; n <= 8; n++) {
             for (int a = 0; a < 5; a++) {
-                TurnGroups x = withFive(n);
-                int[] others = {0, a, 1};
-                int[] wants = {a, a, 1};
-                for (int k = 0; k < 3; k++) {
-                    Due.answer("of(0, ..)", x.of(0, a, others[k]), 5);
-                    sameDue(x, "JOIN of " + a + " and " + others[k], 5, wants[k]);
-                    Due.answer("of(0, ..)", x.of(0, others[k], a), 6);
-                    sameDue(x, "JOIN of " + others[k] + " and " + a, 6, wants[k]);
-                    x.undo();
-                    x.undo();
-                }
+                withOneItselfAndAll(n, 0, a, a, 1);
             }
         }
     }
@@ -421,18 +411,23 @@ public final class BoundTest {
         Due.by("MEET: TURNS that are in both");
         for (int n = 2; n <= 8; n++) {
             for (int a = 0; a < 5; a++) {
-                TurnGroups x = withFive(n);
-                int[] others = {0, a, 1};
-                int[] wants = {0, a, a};
-                for (int k = 0; k < 3; k++) {
-                    Due.answer("of(1, ..)", x.of(1, a, others[k]), 5);
-                    sameDue(x, "MEET of " + a + " and " + others[k], 5, wants[k]);
-                    Due.answer("of(1, ..)", x.of(1, others[k], a), 6);
-                    sameDue(x, "MEET of " + others[k] + " and " + a, 6, wants[k]);
-                    x.undo();
-                    x.undo();
-                }
+                withOneItselfAndAll(n, 1, a, 0, a);
             }
+        }
+    }
+
+    /** JOIN or MEET of a with ONE alone, with itself and with all turns, either of the two first. */
+    private static void withOneItselfAndAll(int n, int way, int a, int withOne, int withAll) {
+        TurnGroups x = withFive(n);
+        int[] others = {0, a, 1};
+        int[] wants = {withOne, a, withAll};
+        for (int k = 0; k < 3; k++) {
+            Due.answer("of(" + way + ", ..)", x.of(way, a, others[k]), 5);
+            sameDue(x, "of " + a + " and " + others[k], 5, wants[k]);
+            Due.answer("of(" + way + ", ..)", x.of(way, others[k], a), 6);
+            sameDue(x, "of " + others[k] + " and " + a, 6, wants[k]);
+            x.undo();
+            x.undo();
         }
     }
 
@@ -851,20 +846,21 @@ public final class BoundTest {
         // The changes of two points in four pairs, and all turns of the pairs.
         int pairs = Stand.groupOf(x, Stand.swap(8, 0, 1), Stand.told(2, 3, 0, 1, 4, 5, 6, 7),
             Stand.told(2, 3, 4, 5, 6, 7, 0, 1));
-        Due.answer("size of the turns of four pairs", x.size(pairs), 384);
-        Due.answer("steps of the turns of four pairs", x.steps(pairs), stepsByMade(x, pairs));
+        goesDown(x, pairs, 384, 96, 32, 2, 1);
+        x.points(8);
+        // Rows of two numbers modulo 3, but for the row of noughts, and what carries sums to sums.
+        int rows = Stand.groupOf(x, Stand.told(3, 7, 2, 6, 1, 5, 0, 4), Stand.told(2, 5, 0, 3, 6, 1, 4, 7));
+        goesDown(x, rows, 48, 24, 8, 2, 1);
     }
 
-    /** DOWN of what came of it, until it has ONE alone. */
-    private static int stepsByMade(TurnGroups x, int a) {
+    /** DOWN of what came of it has so many turns, the last time ONE alone. */
+    private static void goesDown(TurnGroups x, int a, int... sizes) {
+        Due.answer("steps(" + a + ")", x.steps(a), sizes.length - 1);
         int now = a;
-        for (int taken = 0; taken < 6; taken++) {
-            if (x.size(now) == 1) {
-                return taken;
-            }
+        for (int size : sizes) {
+            Due.answer("size of what came of DOWN", x.size(now), size);
             now = x.made(3, now);
         }
-        return NONE;
     }
 
     private static void stillEdges() {

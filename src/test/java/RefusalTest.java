@@ -16,6 +16,10 @@ public final class RefusalTest {
         long on(TurnGroups x);
     }
 
+    private interface CallOfThree {
+        int on(TurnGroups x, int p, int q, int r);
+    }
+
     /** A state of an object, and calls that are refused in it. */
     private static final class Refusals {
         final int n;
@@ -70,6 +74,7 @@ public final class RefusalTest {
                 noSuchStill(in);
                 noSuchElement(in);
                 noSuchCount(in);
+                badJustWhenOneIsOut(in);
             }
             badIsAheadOfFull(new Refusals(n, 10));
             fullWithTen(new Refusals(n, 10));
@@ -237,6 +242,38 @@ public final class RefusalTest {
         Due.by("count: 0, 1, 2, 3. BAD");
         for (int what : in.outside(0, 3)) {
             in.due("count(" + what + ")", BAD, x -> x.count(what));
+        }
+    }
+
+    private static void badJustWhenOneIsOut(Refusals in) {
+        Due.by("BAD (no such POINT, SET, GROUP, or a number out of its bounds)");
+        int group = in.groups - 1;
+        int point = in.n - 1;
+        int set = Stand.allPoints(in.n);
+        badJustAbove(in, "of", (x, p, q, r) -> x.of(p, q, r), 2, group, group);
+        badJustAbove(in, "is", (x, p, q, r) -> x.is(p, q, r), 2, group, group);
+        badJustAbove(in, "by", (x, p, q, r) -> x.by(p, q, r), 1, group, set);
+        badJustAbove(in, "block", (x, p, q, r) -> x.block(p, q, r), group, point, point);
+        badJustAbove(in, "carry", (x, p, q, r) -> x.carry(p, q, r), group, set, set);
+    }
+
+    /** All three arguments in and out of bounds at once, each allowed from 0 to its greatest. */
+    private static void badJustAbove(Refusals in, String name, CallOfThree call, int... most) {
+        int[] numbers = {Integer.MIN_VALUE, -1, 0, 1, 2, 3, in.n - 1, in.n, in.groups - 1, in.groups, 10,
+            Stand.allPoints(in.n), 1 << in.n, Integer.MAX_VALUE};
+        for (int p : numbers) {
+            for (int q : numbers) {
+                TurnGroups x = Stand.with(in.n, in.groups);
+                for (int r : numbers) {
+                    boolean bad = p < 0 || p > most[0] || q < 0 || q > most[1] || r < 0 || r > most[2];
+                    int answer = call.on(x, p, q, r);
+                    Due.answer("whether " + name + "(" + p + ", " + q + ", " + r + ") is BAD with " + in.n
+                        + " points, " + in.groups + " groups", answer == BAD ? 1 : 0, bad ? 1 : 0);
+                    if (x.count(1) > in.groups) {
+                        x.undo();
+                    }
+                }
+            }
         }
     }
 
