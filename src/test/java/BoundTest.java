@@ -9,6 +9,7 @@ public final class BoundTest {
 
     public static void main(String[] args) {
         newObject();
+        objectsStandAlone();
         pointsTwoToEight();
         pointsMakeAllNew();
         pointsAnswerGroupsGone();
@@ -75,6 +76,18 @@ public final class BoundTest {
         }
         Due.answer("group(1)", x.group(1), 0);
         Due.answer("size(0)", x.size(0), 24);
+    }
+
+    private static void objectsStandAlone() {
+        Due.by("TurnGroups(): ... (whatever other objects have)");
+        TurnGroups x = Stand.with(4, 3);
+        String before = Stand.of(x);
+        TurnGroups y = Stand.with(8, 10);
+        Due.state("what another object did", Stand.of(x), before);
+        Due.state("a new object beside two", Stand.of(new TurnGroups()),
+            "points 4, turn 3210, shelf 3210 3210 3210 3210 3210 3210 3210 3210, groups 0");
+        x.points(2);
+        Due.state("points(2) of another object", Stand.of(y), Stand.of(Stand.with(8, 10)));
     }
 
     private static void pointsTwoToEight() {
@@ -1032,12 +1045,27 @@ public final class BoundTest {
 
     private static void lastOf512Calls() {
         Due.by("An object is used for at most 512 calls after it has been made");
+        manyOf("turn", x -> x.turn(Stand.last(8)), 1);
+        manyOf("told()", x -> (int) x.told(), (int) Stand.round(8, 1));
+        manyOf("to(7)", x -> x.to(7), 0);
+        manyOf("lay(7)", x -> x.lay(7), 1);
+        manyOf("take(7)", x -> x.take(7), 1);
+        manyOf("then(7)", x -> x.then(7), 1);
         manyOf("back()", x -> x.back(), 8);
+        manyOf("power(-1)", x -> x.power(-1), 0);
+        manyOf("group(3)", x -> x.group(3), BAD);
+        manyOf("add(3)", x -> x.add(3), 1);
+        manyOf("size(1)", x -> x.size(1), 40320);
+        manyOf("has(3)", x -> x.has(3), 1);
+        manyOf("is(1, 2, 1)", x -> x.is(1, 2, 1), 1);
+        manyOf("orbit(3, 0)", x -> x.orbit(3, 0), 255);
+        manyOf("block(3, 0, 4)", x -> x.block(3, 0, 4), 0x11);
         manyOf("steps(1)", x -> x.steps(1), NONE);
         manyOf("still(1, 0)", x -> x.still(1, 0), 14833);
-        manyOf("add(3)", x -> x.add(3), 1);
-        manyOf("group(3)", x -> x.group(3), BAD);
+        manyOf("element(1, 40319)", x -> x.element(1, 40319), 1);
+        manyOf("place(3)", x -> x.place(3), 1);
         manyOf("carry(1, 15, 240)", x -> x.carry(1, 15, 240), 1);
+        manyOf("count(2)", x -> x.count(2), 0);
         for (int kind = 0; kind < 10; kind++) {
             TurnGroups x = withFive(8);
             // The 11 calls of withFive, 249 times two, and three.
