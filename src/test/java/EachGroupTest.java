@@ -9,8 +9,8 @@ import java.util.Set;
 
 /**
  * Every GROUP of 2 to 6 POINTS with every TURN, SET and POINT, and every two GROUPS of 2 to 5 POINTS.
- * What is due is looked for among all TURNS by the document's words: none of it comes of a few turns
- * that make a group.
+ * Where the document's words speak of each TURN of a GROUP, what is due comes of all of them, and not
+ * of a few that make it.
  */
 public final class EachGroupTest {
     /** How many groups of n points there are; these numbers are known. */
