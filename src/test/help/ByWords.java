@@ -73,6 +73,12 @@ final class ByWords {
         return few;
     }
 
+    static BitSet only(int t) {
+        BitSet only = new BitSet();
+        only.set(t);
+        return only;
+    }
+
     BitSet all() {
         BitSet all = new BitSet();
         all.set(0, turns.rows.length);

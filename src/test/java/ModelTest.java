@@ -30,7 +30,7 @@ public final class ModelTest {
 
     /** One run: the same calls on the class and on the model. */
     private static final class Run {
-        private static final int[] POINTS = {2, 3, 3, 4, 4, 4, 5, 5, 5, 6, 6, 6, 7, 8};
+        private static final int[] POINTS = {2, 3, 4, 5, 6, 7, 7, 7, 8, 8, 8, 8, 8, 8};
         private static final int[] EDGES = {-1, -2, 8, 9, 10, 256, 40320, Integer.MIN_VALUE, Integer.MAX_VALUE};
         private final int run;
         private final Random random;
